@@ -148,31 +148,25 @@ public final class WatershedMapper {
                 return Long.bitCount(grid.outlets);
             case 3:
                 return grid.threshold;
-            case 9:
-                return text.length;
-            case 10:
-                return history.size;
-            default:
-                return countFound(what);
-        }
-    }
-
-    /** The counts that must be found out first. */
-    private int countFound(int what) {
-        if (what == 7) {
-            depressions.find(grid);
-            return depressions.number;
-        }
-        surveyStreams();
-        switch (what) {
             case 4:
+                filling.fill(grid);
                 return filling.lakeNumber;
             case 5:
+                surveyStreams();
                 return Long.bitCount(streams.cells);
             case 6:
+                surveyStreams();
                 return streams.reachNumber;
-            default:
+            case 7:
+                depressions.find(grid);
+                return depressions.number;
+            case 8:
+                surveyFlows(grid);
                 return Long.bitCount(flows.flat);
+            case 9:
+                return text.length;
+            default:
+                return history.size;
         }
     }
 
@@ -198,7 +192,7 @@ public final class WatershedMapper {
         int bottom = grid.lowestPlace(cells);
         switch (what) {
             case 0:
-                return Bits.lowest(cells);
+                return Rows.lowest(cells);
             case 1:
                 return Long.bitCount(cells);
             case 2:
@@ -239,7 +233,7 @@ public final class WatershedMapper {
         long cells = Rows.at(filling.lakes, lake);
         int size = grid.size();
         for (int c = 0; c < size; c++) {
-            if (Bits.has(cells, c)) {
+            if (Rows.has(cells, c)) {
                 Rows.put(grid.heights, c, Rows.at(filling.levels, c));
             }
         }
@@ -287,7 +281,7 @@ public final class WatershedMapper {
         surveyFlows(grid);
         switch (what) {
             case 0:
-                return Bits.has(flows.flat, cell) ? 2 : grid.isOutlet(cell) ? 0 : 1;
+                return Rows.has(flows.flat, cell) ? 2 : grid.isOutlet(cell) ? 0 : 1;
             case 1:
                 return Rows.at(flows.choices, cell);
             default:
@@ -378,7 +372,7 @@ public final class WatershedMapper {
     public int reachOf(int cell) throws IndexOutOfBoundsException, NoSuchElementException {
         requireCell(cell);
         surveyStreams();
-        if (!Bits.has(streams.cells, cell)) {
+        if (!Rows.has(streams.cells, cell)) {
             throw new NoSuchElementException("no stream cell");
         }
         return Rows.at(streams.reachOfCells, cell);
@@ -439,7 +433,7 @@ public final class WatershedMapper {
             case 3:
                 return depressions.capacity(grid, depression);
             case 4:
-                return Bits.lowest(Rows.at(depressions.firstPools, depression));
+                return Rows.lowest(Rows.at(depressions.firstPools, depression));
             case 5:
                 return Rows.at(depressions.parents, depression);
             case 6:
@@ -680,16 +674,20 @@ public final class WatershedMapper {
     }
 
     private void surveyWaters(Grid surveyed) {
-        surveyFlows(surveyed);
+        filling.fill(surveyed);
+        flows.trace(surveyed, filling);
         waters.run(surveyed, flows);
     }
 
+    // Each survey names all its steps itself, for calls may go only eight deep.
     private void surveyStreams() {
-        surveyWaters(grid);
+        filling.fill(grid);
+        flows.trace(grid, filling);
+        waters.run(grid, flows);
         streams.find(grid, flows, waters);
     }
 
-    /** Rows of numbers, read and written only where they have an index. */
+    /** Rows of numbers, read and written only where they have an index; sets of cells have bit c for cell c. */
     static final class Rows {
 
         static int at(int[] row, int index) {
@@ -727,7 +725,7 @@ public final class WatershedMapper {
         static int sum(int[] row, long cells) {
             int sum = 0;
             for (int i = 0; i < row.length; i++) {
-                if (Bits.has(cells, i)) {
+                if (Rows.has(cells, i)) {
                     sum += row[i];
                 }
             }
@@ -738,16 +736,12 @@ public final class WatershedMapper {
         static int greatest(int[] row, long cells) {
             int greatest = 0;
             for (int i = 0; i < row.length; i++) {
-                if (Bits.has(cells, i) && row[i] > greatest) {
+                if (Rows.has(cells, i) && row[i] > greatest) {
                     greatest = row[i];
                 }
             }
             return greatest;
         }
-    }
-
-    /** Sets of cells, bit c for cell c. */
-    static final class Bits {
 
         static boolean has(long set, int cell) {
             return cell >= 0 && cell < MOST_CELLS && ((set >>> cell) & 1L) != 0L;
@@ -805,7 +799,7 @@ public final class WatershedMapper {
         }
 
         boolean isOutlet(int cell) {
-            return Bits.has(outlets, cell);
+            return Rows.has(outlets, cell);
         }
 
         boolean isOnlyOutlet(int cell) {
@@ -901,10 +895,10 @@ public final class WatershedMapper {
 
         /** The cell with the least height in a set that is not empty, of several the lowest one. */
         int lowestPlace(long cells) {
-            int place = Bits.lowest(cells);
+            int place = Rows.lowest(cells);
             int size = size();
             for (int c = 0; c < size; c++) {
-                if (Bits.has(cells, c) && Rows.at(heights, c) < Rows.at(heights, place)) {
+                if (Rows.has(cells, c) && Rows.at(heights, c) < Rows.at(heights, place)) {
                     place = c;
                 }
             }
@@ -942,7 +936,7 @@ public final class WatershedMapper {
             int groups = 0;
             long left = set;
             for (int c = 0; c < MOST_CELLS; c++) {
-                if (Bits.has(left, c)) {
+                if (Rows.has(left, c)) {
                     long group = reachable(1L << c, left);
                     left &= ~group;
                     if ((group & avoid) == 0L) {
@@ -960,7 +954,7 @@ public final class WatershedMapper {
             for (int c = 0; c < size; c++) {
                 for (int d = 1; d <= 2; d++) {
                     int neighbor = neighbor(c, d);
-                    if (neighbor != NONE && Bits.has(set, c) != Bits.has(set, neighbor)) {
+                    if (neighbor != NONE && Rows.has(set, c) != Rows.has(set, neighbor)) {
                         pairs++;
                     }
                 }
@@ -1040,7 +1034,7 @@ public final class WatershedMapper {
                 long before = flooded;
                 flooded = grid.reachable(flooded | grid.outlets, grid.atMost(m));
                 for (int c = 0; c < size && flooded != before; c++) {
-                    if (Bits.has(flooded & ~before, c)) {
+                    if (Rows.has(flooded & ~before, c)) {
                         Rows.put(levels, c, m);
                     }
                 }
@@ -1065,7 +1059,7 @@ public final class WatershedMapper {
             lakeNumber = 0;
             int size = grid.size();
             for (int c = 0; c < size; c++) {
-                if (Bits.has(wet, c) && Rows.at(lakeOfCells, c) == NONE) {
+                if (Rows.has(wet, c) && Rows.at(lakeOfCells, c) == NONE) {
                     long lake = grid.reachable(1L << c, wetAtLevel(Rows.at(levels, c)));
                     Rows.put(lakes, lakeNumber, lake);
                     numberLake(lake);
@@ -1077,7 +1071,7 @@ public final class WatershedMapper {
         private long wetAtLevel(int level) {
             long cells = 0L;
             for (int c = 0; c < MOST_CELLS; c++) {
-                if (Bits.has(wet, c) && Rows.at(levels, c) == level) {
+                if (Rows.has(wet, c) && Rows.at(levels, c) == level) {
                     cells |= 1L << c;
                 }
             }
@@ -1086,7 +1080,7 @@ public final class WatershedMapper {
 
         private void numberLake(long lake) {
             for (int c = 0; c < MOST_CELLS; c++) {
-                if (Bits.has(lake, c)) {
+                if (Rows.has(lake, c)) {
                     Rows.put(lakeOfCells, c, lakeNumber);
                 }
             }
@@ -1095,6 +1089,7 @@ public final class WatershedMapper {
 
     /** Ranks, directions and routes. */
     static final class Flows {
+        int size;
         long flat;
         final int[] ranks;
         final int[] directions;
@@ -1118,19 +1113,18 @@ public final class WatershedMapper {
         }
 
         void trace(Grid grid, Filling filling) {
+            size = grid.size();
             findFlat(grid, filling);
             findRanks(grid, filling);
-            int size = grid.size();
             for (int c = 0; c < size; c++) {
                 choose(grid, filling, c);
             }
-            findSequence(size);
-            findMouths(size);
+            findSequence();
+            findMouths();
         }
 
         private void findFlat(Grid grid, Filling filling) {
             flat = 0L;
-            int size = grid.size();
             for (int c = 0; c < size; c++) {
                 boolean isSloping = leastLevelAround(grid, filling, c) < Rows.at(filling.levels, c);
                 if (!isSloping && !grid.isOutlet(c)) {
@@ -1151,9 +1145,8 @@ public final class WatershedMapper {
         }
 
         private void findRanks(Grid grid, Filling filling) {
-            int size = grid.size();
             for (int c = 0; c < size; c++) {
-                Rows.put(ranks, c, Bits.has(flat, c) ? NONE : 0);
+                Rows.put(ranks, c, Rows.has(flat, c) ? NONE : 0);
             }
             boolean isFound = true;
             for (int rank = 1; rank < MOST_CELLS && isFound; rank++) {
@@ -1192,7 +1185,7 @@ public final class WatershedMapper {
             // From the last direction to the first, so that the lowest one stays.
             for (int d = DIRECTIONS - 1; d >= 0; d--) {
                 int neighbor = grid.neighbor(cell, d);
-                boolean isChoice = Bits.has(flat, cell)
+                boolean isChoice = Rows.has(flat, cell)
                         ? isOnLevel(filling, cell, neighbor, Rows.at(ranks, cell) - 1)
                         : neighbor != NONE && Rows.at(filling.levels, neighbor) == least;
                 if (isChoice) {
@@ -1203,7 +1196,7 @@ public final class WatershedMapper {
             }
         }
 
-        private void findSequence(int size) {
+        private void findSequence() {
             Arrays.fill(pending, 0);
             for (int c = 0; c < size; c++) {
                 Rows.add(pending, Rows.at(targets, c), 1);
@@ -1225,16 +1218,12 @@ public final class WatershedMapper {
             }
         }
 
-        private void findMouths(int size) {
+        private void findMouths() {
             for (int k = size - 1; k >= 0; k--) {
                 int c = Rows.at(sequence, k);
                 int target = Rows.at(targets, c);
                 Rows.put(mouths, c, target == NONE ? c : Rows.at(mouths, target));
                 Rows.put(steps, c, target == NONE ? 0 : Rows.at(steps, target) + 1);
-            }
-            for (int c = size; c < MOST_CELLS; c++) {
-                Rows.put(mouths, c, NONE);
-                Rows.put(steps, c, NONE);
             }
         }
 
@@ -1248,7 +1237,7 @@ public final class WatershedMapper {
 
         int firstOutside(int cell, long cells) {
             int c = cell;
-            for (int k = 0; k < MOST_CELLS && Bits.has(cells, c); k++) {
+            for (int k = 0; k < MOST_CELLS && Rows.has(cells, c); k++) {
                 c = Rows.at(targets, c);
             }
             return c;
@@ -1257,9 +1246,10 @@ public final class WatershedMapper {
         /** The cells whose routes contain a cell. */
         long above(int cell) {
             long cells = 1L << cell;
-            for (int k = MOST_CELLS - 1; k >= 0; k--) {
+            // From the end, so that the cell to which a cell flows is looked at before it.
+            for (int k = size - 1; k >= 0; k--) {
                 int c = Rows.at(sequence, k);
-                if (Rows.at(steps, c) > 0 && Bits.has(cells, Rows.at(targets, c))) {
+                if (Rows.has(cells, Rows.at(targets, c))) {
                     cells |= 1L << c;
                 }
             }
@@ -1283,8 +1273,7 @@ public final class WatershedMapper {
 
         void run(Grid grid, Flows flows) {
             Arrays.fill(inflows, 0);
-            int size = grid.size();
-            for (int k = 0; k < size; k++) {
+            for (int k = 0; k < flows.size; k++) {
                 int c = Rows.at(flows.sequence, k);
                 int amount = Rows.at(inflows, c) + Rows.at(grid.rains, c);
                 int soak = Math.min(amount, Rows.at(grid.soaks, c));
@@ -1323,11 +1312,10 @@ public final class WatershedMapper {
         }
 
         void find(Grid grid, Flows flows, Waters waters) {
-            int size = grid.size();
             findCells(grid, waters);
-            findOrders(flows, size);
-            beginReaches(size);
-            followReaches(flows, size);
+            findOrders(flows);
+            beginReaches(grid);
+            followReaches(flows);
         }
 
         private void findCells(Grid grid, Waters waters) {
@@ -1340,14 +1328,14 @@ public final class WatershedMapper {
             }
         }
 
-        private void findOrders(Flows flows, int size) {
+        private void findOrders(Flows flows) {
             Arrays.fill(orders, 0);
             Arrays.fill(feeders, 0);
             Arrays.fill(greatest, 0);
             Arrays.fill(greatestNumber, 0);
-            for (int k = 0; k < size; k++) {
+            for (int k = 0; k < flows.size; k++) {
                 int c = Rows.at(flows.sequence, k);
-                if (Bits.has(cells, c)) {
+                if (Rows.has(cells, c)) {
                     // All feeders of the cell stand before it in the sequence.
                     int highest = Rows.at(greatest, c);
                     int order = Rows.at(greatestNumber, c) == 1 ? highest : highest + 1;
@@ -1358,7 +1346,7 @@ public final class WatershedMapper {
         }
 
         private void feed(int cell, int order) {
-            if (!Bits.has(cells, cell)) {
+            if (!Rows.has(cells, cell)) {
                 return;
             }
             Rows.add(feeders, cell, 1);
@@ -1371,13 +1359,14 @@ public final class WatershedMapper {
         }
 
         private boolean isBeginning(int cell) {
-            return Bits.has(cells, cell) && Rows.at(feeders, cell) != 1;
+            return Rows.has(cells, cell) && Rows.at(feeders, cell) != 1;
         }
 
-        private void beginReaches(int size) {
+        private void beginReaches(Grid grid) {
             Arrays.fill(reachOfCells, NONE);
             Arrays.fill(lengths, 0);
             reachNumber = 0;
+            int size = grid.size();
             for (int c = 0; c < size; c++) {
                 if (isBeginning(c)) {
                     Rows.put(reachOfCells, c, reachNumber);
@@ -1387,15 +1376,15 @@ public final class WatershedMapper {
             }
         }
 
-        private void followReaches(Flows flows, int size) {
-            for (int k = 0; k < size; k++) {
+        private void followReaches(Flows flows) {
+            for (int k = 0; k < flows.size; k++) {
                 int c = Rows.at(flows.sequence, k);
-                if (Bits.has(cells, c)) {
+                if (Rows.has(cells, c)) {
                     int reach = Rows.at(reachOfCells, c);
                     Rows.put(lasts, reach, c);
                     Rows.add(lengths, reach, 1);
                     int target = Rows.at(flows.targets, c);
-                    if (Bits.has(cells, target) && !isBeginning(target)) {
+                    if (Rows.has(cells, target) && !isBeginning(target)) {
                         Rows.put(reachOfCells, target, reach);
                     }
                 }
@@ -1435,7 +1424,7 @@ public final class WatershedMapper {
             for (int low = 0; low <= HIGHEST; low++) {
                 long left = grid.poolCells(low);
                 for (int c = 0; c < size && left != 0L; c++) {
-                    if (Bits.has(left, c)) {
+                    if (Rows.has(left, c)) {
                         long pool = grid.reachable(1L << c, left);
                         left &= ~pool;
                         place(pool, low);
@@ -1513,7 +1502,7 @@ public final class WatershedMapper {
         /** The depression without a parent whose last pool contains a cell, or NONE. */
         int rootAt(int cell) {
             for (int d = 0; d < number; d++) {
-                if (Rows.at(parents, d) == NONE && Bits.has(Rows.at(lastPools, d), cell)) {
+                if (Rows.at(parents, d) == NONE && Rows.has(Rows.at(lastPools, d), cell)) {
                     return d;
                 }
             }
@@ -1724,7 +1713,7 @@ public final class WatershedMapper {
         int length;
         int error;
         private int place;
-        private char kind;
+        private int kind;
         private int cell;
         private int number;
 
