@@ -1137,12 +1137,12 @@ public final class OracleTests {
             for (int end = 0; end <= text.length(); end++) {
                 String part = text.substring(0, end);
                 // The last number of a cell that is whole before the character at 'end' is looked at.
-                java.util.regex.Matcher cell = java.util.regex.Pattern.compile("(^|;)[hrso]([0-9]+)$").matcher(part);
+                java.util.regex.Matcher cell = java.util.regex.Pattern.compile("(^|;)[hrso]" + number + "$").matcher(part);
                 boolean isWhole = end == text.length() || !Character.isDigit(text.charAt(end));
                 if (cell.find()) {
                     String digits = cell.group(2);
                     boolean isEnded = digits.length() == 2 || digits.equals("0") || isWhole;
-                    if (digits.length() <= 2 && isEnded && Integer.parseInt(digits) >= size()) {
+                    if (isEnded && Integer.parseInt(digits) >= size()) {
                         return cell.start(2);
                     }
                 }
