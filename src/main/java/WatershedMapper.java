@@ -1042,7 +1042,6 @@ public final class WatershedMapper {
         }
 
         private void findDepths(Grid grid) {
-            Arrays.fill(depths, 0);
             wet = 0L;
             int size = grid.size();
             for (int c = 0; c < size; c++) {
@@ -1363,7 +1362,6 @@ public final class WatershedMapper {
         }
 
         private void beginReaches(Grid grid) {
-            Arrays.fill(reachOfCells, NONE);
             Arrays.fill(lengths, 0);
             reachNumber = 0;
             int size = grid.size();

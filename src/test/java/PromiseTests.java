@@ -95,7 +95,9 @@ public final class PromiseTests {
         textErrors();
         maps();
         undoing();
+        undoingInTurn();
         saving();
+        firstCell();
         System.out.println(passed + " answers as due, " + failed + " not");
         if (failed != 0) {
             System.exit(1);
@@ -379,43 +381,36 @@ public final class PromiseTests {
 
         promise = 19;
         m.undo();
-        int[] way = {11, 7, 6, 2, 1, 0};
-        for (int k = 0; k < way.length; k++) {
-            int index = k;
-            due(way[k], () -> m.carveWay(11, index));
-        }
-        due(ELEMENT, () -> m.carveWay(11, 6));
+        way(11, 11, 7, 6, 2, 1, 0);
         due(ELEMENT, () -> m.carveWay(11, -1));
         due(ELEMENT, () -> m.carveWay(11, HIGH));
         // An outlet's best way is the outlet alone, also next to a lower one.
         m.setOutlet(1, true);
-        due(1, () -> m.carveWay(1, 0));
-        due(ELEMENT, () -> m.carveWay(1, 1));
+        way(1, 1);
         wrongCells(c -> m.carveWay(c, -1));
 
         // To go down into a pit makes the rest of the way deeper: it costs more than the straight rise.
         grid(19, 3, 50, 60, 60, 61, 50, 0, 50, 50, 50);
-        due(4, () -> m.carveWay(4, 0));
-        due(1, () -> m.carveWay(4, 1));
-        due(0, () -> m.carveWay(4, 2));
-        // Of equal costs the fewest cells.
+        way(4, 4, 1, 0);
+        // Of equal costs the fewest cells, and of equal numbers the first directions: up before left.
         grid(19, 3, 5, 5, 5, 5, 5, 5, 5, 5, 5);
-        due(1, () -> m.carveWay(1, 0));
-        due(0, () -> m.carveWay(1, 1));
-        // Of equal numbers the first directions: up before left.
-        due(5, () -> m.carveWay(8, 1));
-        due(2, () -> m.carveWay(8, 2));
-        due(1, () -> m.carveWay(8, 3));
-        due(0, () -> m.carveWay(8, 4));
+        way(1, 1, 0);
+        way(8, 8, 5, 2, 1, 0);
         // A lesser cost takes a longer way.
         grid(19, 3, 5, 9, 5, 5, 9, 5, 5, 5, 5);
-        due(5, () -> m.carveWay(2, 1));
-        due(8, () -> m.carveWay(2, 2));
-        due(0, () -> m.carveWay(2, 6));
+        way(2, 2, 5, 8, 7, 6, 3, 0);
         // Right before left when both ways have the same cost and length.
         grid(19, 3, 5, 5, 5, 9, 9, 9, 9, 9, 9);
         m.setOutlet(2, true);
-        due(2, () -> m.carveWay(1, 1));
+        way(1, 1, 2);
+    }
+
+    private static void way(int cell, int... cells) {
+        for (int k = 0; k < cells.length; k++) {
+            int index = k;
+            due(cells[k], () -> m.carveWay(cell, index));
+        }
+        due(ELEMENT, () -> m.carveWay(cell, cells.length));
     }
 
     private static void flows() {
@@ -1033,6 +1028,59 @@ public final class PromiseTests {
         m.save();
         m.append('x');
         due(before, () -> m.count(10));
+    }
+
+    /** More changes than are kept, with as many taken back: each brings back its own height. */
+    private static void undoingInTurn() {
+        for (int changes = 9; changes <= 20; changes++) {
+            fresh(47);
+            for (int k = 1; k <= changes; k++) {
+                m.setHeight(0, k);
+            }
+            for (int k = 1; k <= 8; k++) {
+                int left = 8 - k;
+                int height = changes - k;
+                due(left, () -> m.undo());
+                due(height, () -> m.cell(0, 0));
+            }
+            due(STATE, () -> m.undo());
+        }
+    }
+
+    /** Cell 0 as any other one: in a lake, as a pool, at a border, as a source. */
+    private static void firstCell() {
+        grid(14, 3, 1, 9, 2, 9, 9, 9, 9, 9, 5);
+        m.setOutlet(8, true);
+        m.setOutlet(0, false);
+        due(2, () -> m.count(4));
+        due(0, () -> m.lakeOf(0));
+        due(0, () -> m.lake(0, 0));
+        due(8, () -> m.lake(0, 3));
+        due(15, () -> m.account(3));
+        due(7.5, () -> m.meanDepth());
+        due(cells(0, 2), () -> m.pools(8));
+        due(0, () -> m.depressionAt(0, 1));
+        due(2, () -> m.count(7));
+        due(9, () -> m.levelByPools(0));
+        due(6, () -> m.contour(9, 2));
+        way(0, 0, 1, 2, 5, 8);
+        due(2, () -> m.why(0, 0));
+        due(cells(0), () -> m.upstream(0));
+        due(8, () -> m.fillLake(0));
+        due(9, () -> m.cell(0, 0));
+        due(0, () -> m.lakeOf(2));
+        m.setThreshold(1);
+        due(0, () -> m.reachOf(0));
+        due(0, () -> m.reach(0, 0));
+        due(9, () -> m.water(8, 1));
+
+        // A way with more steps down is no longer than its number of cells.
+        grid(19, 4, 2, 3, 4, 5, 5, 5, 5, 5);
+        way(3, 3, 2, 1, 0);
+        // The greatest height as a start.
+        grid(19, 3, 0, 99, 99, 99, 99, 0, 99, 99, 99);
+        way(4, 4, 1, 0);
+        way(8, 8, 7, 4, 1, 0);
     }
 
     private static void saving() {
